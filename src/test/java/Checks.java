@@ -40,6 +40,18 @@ final class Checks {
         due(what + " changes nothing", before, x::digest);
     }
 
+    /** The pulses of the log, each told by what pulse() answers for 0 and on. */
+    static void pulsesAre(DischargeRecorder x, String what, int[]... rows) {
+        due(what + ": pulses", rows.length, x::pulses);
+        for (int i = 0; i < rows.length; i++) {
+            int pulse = i;
+            for (int k = 0; k < rows[i].length; k++) {
+                int asked = k;
+                due(what + ": pulse " + i + " " + k, rows[i][k], () -> x.pulse(pulse, asked));
+            }
+        }
+    }
+
     static void append(DischargeRecorder x, String text) {
         for (int i = 0; i < text.length(); i++) {
             x.append(text.charAt(i));
