@@ -684,14 +684,11 @@ public final class DischargeRecorder {
         }
 
         private int readNumber() {
-            int number = 0;
+            int number = next() - '0';
             step(isDigitNext());
-            if (error == NONE) {
-                number = bytes[at - 1] - '0';
-                for (int i = 1; i < MOST_DIGITS && isDigitNext(); i++) {
-                    number = number * 10 + next() - '0';
-                    at++;
-                }
+            for (int i = 1; i < MOST_DIGITS && error == NONE && isDigitNext(); i++) {
+                number = number * 10 + next() - '0';
+                at++;
             }
             return number;
         }

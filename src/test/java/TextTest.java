@@ -46,7 +46,9 @@ final class TextTest {
         Checks.due("10: the next time", 10010, () -> x.pulse(4, 1));
         Checks.due("10: its length", 36, x::clearText);
         x.forget(1000000);
-        Checks.write(x, "m7+1;");
+        Checks.write(x, "m7");
+        Checks.due("10: an error", -12, x::parse);
+        Checks.append(x, "+1;");
         Checks.due("10: an empty log", 1, x::parse);
         Checks.due("10: starts after tick 0", 7, () -> x.pulse(0, 1));
         Checks.write(x, "m0+0;".repeat(30));

@@ -42,6 +42,16 @@ final class TrendTest {
         intervalIs(y, 2776, 0, 0, 0);
         intervalIs(y, 2777, 1, 50, 50, 0, 1);
         intervalIs(new DischargeRecorder(), 0, 0, 0, 0, 0, 0);
+        x.forget(1);
+        intervalIs(x, 0, 1, 70, 70, 0, 0);
+        intervalIs(x, 2, 1, 60, 60, 0, 0);
+        x.forget(1000);
+        intervalIs(x, 0, 0, 0, 0, 0, 0);
+        intervalIs(x, 2, 0, 0, 0, 0, 0);
+        x.undo();
+        x.undo();
+        intervalIs(x, 0, 2, 70, 120, 0, 0);
+        intervalIs(x, 2, 1, 60, 60, 0, 0);
         DischargeRecorder z = new DischargeRecorder();
         z.record(0, 359, 50);
         z.record(0, 719, 60);
@@ -124,6 +134,12 @@ final class TrendTest {
         growthAlarmIs(0, 100, 100, 100, 199);
         growthAlarmIs(1, 0, 0, 0, 20);
         growthAlarmIs(0, 0, 0, 0, 0);
+        DischargeRecorder least = new DischargeRecorder();
+        least.set(2, 0);
+        least.record(0, 1080, 0);
+        Checks.due("22: growth alarm of a charge of 0", 0, () -> least.interval(3, 4));
+        least.record(0, 1090, 1);
+        Checks.due("22: growth alarm of a charge of 1", 1, () -> least.interval(3, 4));
         growthAlarmIs(1, 300, 0, 0, 200);
         growthAlarmIs(0, 300, 0, 0, 199);
         growthAlarmIs(0, 0, 300, 0, 199);
@@ -135,12 +151,7 @@ final class TrendTest {
 
     /** Sums of peaks above the greatest int. */
     private static void greatPeaks() {
-        DischargeRecorder x = new DischargeRecorder();
-        x.set(1, 1000);
-        x.record(2, 0, 1);
-        for (int i = 0; i < 239; i++) {
-            x.record(2, 0, 0);
-        }
+        DischargeRecorder x = Checks.heavy(240);
         for (int i = 0; i < 5; i++) {
             x.record(0, 360 * i, 2000);
         }
