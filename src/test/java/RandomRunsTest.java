@@ -59,8 +59,11 @@ final class RandomRunsTest {
         same("digest at the end", model::digest, x::digest);
     }
 
-    /** A number of a range, often one of its ends, now and then one beyond them. */
+    /** A number of a range, often one of its ends, now and then one beyond them, or far away. */
     private int in(int low, int high) {
+        if (chance.nextInt(300) == 0) {
+            return chance.nextBoolean() ? Integer.MIN_VALUE : Integer.MAX_VALUE;
+        }
         switch (chance.nextInt(16)) {
             case 0: return low;
             case 1: return high;

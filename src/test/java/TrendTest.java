@@ -2,6 +2,7 @@
 final class TrendTest {
     public static void main(String[] args) {
         facts();
+        gonePulses();
         longIntervals();
         refuses();
         limitAlarms();
@@ -58,6 +59,21 @@ final class TrendTest {
         z.set(0, 1);
         intervalIs(z, 0, 1, 50, 50);
         intervalIs(z, 1, 1, 60, 60);
+    }
+
+    /** A pulse that has gone from the log gives no peak, however it went. */
+    private static void gonePulses() {
+        DischargeRecorder x = new DischargeRecorder();
+        x.record(0, 1080, 100);
+        intervalIs(x, 3, 1, 100, 100, 0, 1);
+        x.forget(1081);
+        intervalIs(x, 3, 0, 0, 0, 0, 0);
+        intervalIs(x, 0, 0, 0, 0, 0, 0);
+        x.undo();
+        intervalIs(x, 3, 1, 100, 100, 0, 1);
+        x.undo();
+        intervalIs(x, 3, 0, 0, 0, 0, 0);
+        intervalIs(x, 0, 0, 0, 0, 0, 0);
     }
 
     private static void longIntervals() {
