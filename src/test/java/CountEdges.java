@@ -255,6 +255,10 @@ final class CountEdges {
         featuresAre(x, 1, 179, 180, 1, 90, 90, 1, 180, 180);
         featuresAre(x, 0, 180, 359, 0, 0, 0, 0, -1, -1);
         featuresAre(x, 1, 0, 179, 0, 0, 0, 0, -1, -1);
+        DischargeRecorder mixed = Edge.at(50, 380, 800, 1110, 230 + 1440, 190 + 1800, 300 + 2160);
+        featuresAre(mixed, 0, 0, 1000000, 4, 100, 400, 4, 20, 80);
+        featuresAre(mixed, 1, 0, 1000000, 3, 100, 300, 3, 190, 300);
+        featuresAre(mixed, 0, 51, 1000000, 3, 100, 300, 3, 20, 80);
         DischargeRecorder zero = Edge.with("m0-0;", 2, 0);
         featuresAre(zero, 0, 0, 0, 1, 0, 0, 1, 0, 0);
         DischargeRecorder y = Checks.heavy(100);
@@ -272,8 +276,8 @@ final class CountEdges {
 
     private static void asymmetry() {
         Doc.says("17", "the mean charge of the half 1 divided by that of the half 0, both as"
-            + " doubles (the sum of the charges, converted to double, divided by the number of pulses,"
-            + " converted to double).");
+            + " doubles (the sum of the charges, converted to double, divided by the number of"
+            + " pulses, converted to double).");
         Doc.says("17", "Returns the asymmetry;");
         Doc.says("17", "0.0 if a half has no accepted pulses, or the sum of the charges of the half"
             + " 0 is 0.");

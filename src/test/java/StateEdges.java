@@ -13,6 +13,8 @@ final class StateEdges {
         otherCallsSaveNothing();
         fourStates();
         exceptTheText();
+        whatCameInItsPlace();
+        fullLogComesBack();
         nothingToUndo();
         undo();
         firstException();
@@ -153,6 +155,55 @@ final class StateEdges {
         Checks.due("and its length", 10, x::clearText);
         x.undo();
         Checks.due("it is not brought back", 0, x::clearText);
+    }
+
+    /** Windows and pulses come back even where others have been put in their places. */
+    private static void whatCameInItsPlace() {
+        Doc.says("Undo", "The saved state contains everything");
+        DischargeRecorder x = Checks.recorder("m5+50;n1+60;");
+        x.block(350, 10);
+        x.block(20, 30);
+        long before = x.digest();
+        x.unblock();
+        x.block(40, 50);
+        x.block(70, 60);
+        x.block(80, 80);
+        for (int i = 0; i < 4; i++) {
+            x.undo();
+        }
+        x.unblock();
+        x.undo();
+        Checks.due("the first window", 3, () -> x.pulse(0, 5));
+        x.forget(1000000);
+        x.record(2, 9, 70);
+        x.record(0, 10, 80);
+        for (int i = 0; i < 3; i++) {
+            x.undo();
+        }
+        for (int i = 0; i < 4; i++) {
+            x.set(0, 0);
+        }
+        Checks.due("windows and pulses as they were", before, x::digest);
+        Checks.due("both windows", 2, x::unblock);
+    }
+
+    /** The last place of a full log comes back, too. */
+    private static void fullLogComesBack() {
+        Doc.says("Undo", "The saved state contains everything");
+        DischargeRecorder x = Edge.State.FULL.make();
+        long before = x.digest();
+        Checks.due("the oldest pulse goes", 1, () -> x.forget(10));
+        Checks.due("another one is the last", 249, () -> x.record(2, 1000000, 7));
+        x.undo();
+        x.undo();
+        int[] last = {1, 2250, 95};
+        for (int what = 0; what < last.length; what++) {
+            int asked = what;
+            Checks.due("the last pulse, " + what, last[what], () -> x.pulse(249, asked));
+        }
+        x.set(0, 0);
+        x.set(0, 0);
+        Checks.due("all of them", before, x::digest);
     }
 
     private static void nothingToUndo() {

@@ -293,6 +293,13 @@ final class TextEdges {
         }
         Checks.append(x, "m1+5;");
         Checks.due("nothing of the old text", 1, x::parse);
+        String old = "m1+5;n12-345;";
+        for (int length = 0; length <= old.length(); length++) {
+            Checks.write(x, old);
+            Checks.write(x, old.substring(0, length));
+            int due = length == 0 ? 0 : length == 5 ? 1 : length == 13 ? 2 : -10 - length;
+            Checks.due("no byte of the old text behind " + length, due, x::parse);
+        }
     }
 
     private static void parse() {

@@ -82,6 +82,13 @@ final class TrendEdges {
         Checks.due("the greatest is blocked", 61L, () -> x.interval(0, 1));
         x.set(2, 61);
         Checks.due("all are quiet or blocked", 0L, () -> x.interval(0, 1));
+        for (int time : new int[] {0, 720, 999719, 1000000}) {
+            DischargeRecorder gone = Edge.at(time);
+            int k = time / 360;
+            Checks.due("it is there at " + time, 100L, () -> gone.interval(k, 1));
+            gone.undo();
+            Checks.due("it is gone from " + time, 0L, () -> gone.interval(k, 1));
+        }
         Checks.due("a peak of 0", 0L, () -> peaks(0).interval(0, 1));
         Checks.due("of an empty log", 0L, () -> new DischargeRecorder().interval(0, 1));
         Checks.due("of an empty log, the last", 0L,

@@ -152,6 +152,14 @@ final class WhatIfEdges {
         x.set(3, 1);
         x.set(4, 100);
         Checks.due("all gated", 0, () -> x.levelFor(0));
+        DischargeRecorder y = Checks.recorder("m5+50;n3-300;");
+        y.set(3, 300);
+        Checks.due("gated by one of the gate level", 0, () -> y.levelFor(0));
+        y.set(3, 301);
+        Checks.due("not gated by one below it", 51, () -> y.levelFor(0));
+        y.set(3, 300);
+        y.set(4, 2);
+        Checks.due("not gated by one too far away", 51, () -> y.levelFor(0));
     }
 
     private static void levelAndDeadTime() {
