@@ -288,6 +288,19 @@ final class TrendEdges {
         two.set(10, 100);
         Checks.due("interval 2777, with the one before it", 2777, () -> two.firstAlarm(false));
         Doc.says("23", "NONE if there is none.");
+        DischargeRecorder none = new DischargeRecorder();
+        none.set(10, 1);
+        for (int persistence = 1; persistence <= 10; persistence++) {
+            none.set(9, persistence);
+            Checks.due("none of empty intervals, " + persistence, -1,
+                () -> none.firstAlarm(false));
+            Checks.due("not the last one, " + persistence, 0L, () -> none.interval(2777, 3));
+        }
+        DischargeRecorder lastButOne = Edge.at(999359, 999719);
+        lastButOne.set(10, 100);
+        Checks.due("interval 2776", 2776, () -> lastButOne.firstAlarm(false));
+        Checks.due("not the empty one behind it", 0L, () -> lastButOne.interval(2777, 3));
+        Checks.due("nor the one before it", 0L, () -> lastButOne.interval(2775, 3));
         Checks.due("no limit alarm of an empty log", -1,
             () -> new DischargeRecorder().firstAlarm(false));
         Checks.due("no limit alarm", -1, () -> peaks(499, 499, 600, 499).firstAlarm(false));
