@@ -78,14 +78,57 @@ final class Doc {
         Checks.due("\"" + words + "\" stands at " + place, true, String.valueOf(found)::toString);
     }
 
-    /** Each sentence of the description and of the promises has been named by a test. */
+    /**
+     * Each sentence of the document has been named by a test, from its first line to its last, but
+     * the examples: ExamplesTest makes every call of them.
+     */
     static void allNamed() {
         for (Sentence sentence : SENTENCES) {
-            if (sentence.place.matches("\\d+") || isDescription(sentence.place)) {
+            if (!sentence.place.equals("Examples")) {
                 boolean named = NAMED.contains(sentence);
                 Checks.due("a test of " + sentence, true, String.valueOf(named)::toString);
             }
         }
+    }
+
+    /** The lines behind a heading, up to the next one that begins with two signs of number. */
+    private static List<String> behind(String heading) {
+        List<String> found = new ArrayList<>();
+        boolean in = false;
+        for (String line : lines()) {
+            in = line.startsWith("## ") ? line.startsWith(heading) : in;
+            if (in && !line.startsWith("## ")) {
+                found.add(line);
+            }
+        }
+        return found;
+    }
+
+    /** What stands in the class that "The public face" prints, a line each. */
+    static List<String> face() {
+        return behind("## The public face").stream().filter(l -> l.startsWith("    public "))
+            .map(l -> l.strip().replaceFirst(";$", "")).toList();
+    }
+
+    /** The signatures that the promises begin with. */
+    static List<String> signatures() {
+        return behind("## Promise").stream().filter(l -> l.startsWith("`"))
+            .map(l -> l.replace("`", "")).toList();
+    }
+
+    /** The examples, each in one line. */
+    static List<String> examples() {
+        List<String> found = new ArrayList<>();
+        boolean in = false;
+        for (String line : lines()) {
+            in = line.startsWith("Examples:") || in && !line.startsWith("The constants:");
+            if (in && line.matches("\\d\\. .*")) {
+                found.add(line);
+            } else if (in && !found.isEmpty()) {
+                found.set(found.size() - 1, found.get(found.size() - 1) + " " + line);
+            }
+        }
+        return found;
     }
 
     public static void main(String[] args) {

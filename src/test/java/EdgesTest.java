@@ -4,6 +4,7 @@
  */
 final class EdgesTest {
     public static void main(String[] args) {
+        OverviewEdges.all();
         PulseEdges.all();
         StatusEdges.all();
         CountEdges.all();

@@ -1,65 +1,64 @@
-/** The five examples of the document, as they are printed there. */
+import java.lang.reflect.InvocationTargetException;
+import java.lang.reflect.Method;
+import java.util.List;
+import java.util.regex.Matcher;
+import java.util.regex.Pattern;
+
+/** The examples, read out of the document: each call answers, or throws, as is printed there. */
 final class ExamplesTest {
+    private static final Pattern CALL =
+        Pattern.compile("(\\w+)\\(([^)]*)\\) = (?:throws (\\w+)|(-?\\d+))");
+
     public static void main(String[] args) {
-        calibrationAndGating();
-        bursts();
-        limitAlarm();
-        blockedWindow();
-        errors();
+        List<String> examples = Doc.examples();
+        Checks.due("the number of examples", 5, examples::size);
+        for (String example : examples) {
+            calls(example);
+        }
         Checks.end();
     }
 
-    private static void calibrationAndGating() {
+    private static void calls(String example) {
         DischargeRecorder x = new DischargeRecorder();
-        Checks.due("1: record(2, 0, 50)", 0, () -> x.record(2, 0, 50));
-        Checks.due("1: record(0, 40, 100)", 1, () -> x.record(0, 40, 100));
-        Checks.due("1: pulse(1, 4)", 200, () -> x.pulse(1, 4));
-        Checks.due("1: record(1, 100, 300)", 2, () -> x.record(1, 100, 300));
-        Checks.due("1: record(0, 102, 90)", 3, () -> x.record(0, 102, 90));
-        Checks.due("1: pulse(3, 5)", 2, () -> x.pulse(3, 5));
-        Checks.due("1: set(4, 1)", 3, () -> x.set(4, 1));
-        Checks.due("1: pulse(3, 5)", 0, () -> x.pulse(3, 5));
-        Checks.due("1: count(4, -1)", 1, () -> x.count(4, -1));
+        Matcher call = CALL.matcher(example);
+        int made = 0;
+        while (call.find()) {
+            String name = call.group(1);
+            String arguments = call.group(2);
+            String due = call.group(3) != null ? call.group(3) : call.group(4);
+            Checks.due(example.substring(0, 2) + " " + name + "(" + arguments + ")", due,
+                () -> answer(x, name, arguments));
+            made++;
+        }
+        int seen = made;
+        Checks.due("the calls of: " + example, example.split(" = ").length - 1, () -> seen);
     }
 
-    private static void bursts() {
-        DischargeRecorder x = new DischargeRecorder();
-        Checks.due("2: record(0, 10, 100)", 0, () -> x.record(0, 10, 100));
-        Checks.due("2: record(0, 30, 100)", 1, () -> x.record(0, 30, 100));
-        Checks.due("2: record(0, 100, 100)", 2, () -> x.record(0, 100, 100));
-        Checks.due("2: bursts()", 2, () -> x.bursts());
-        Checks.due("2: burst(0, 0)", 2, () -> x.burst(0, 0));
-        Checks.due("2: burst(1, 1)", 100, () -> x.burst(1, 1));
+    private static Object answer(DischargeRecorder x, String name, String arguments) {
+        String[] texts = arguments.isEmpty() ? new String[0] : arguments.split(", ");
+        Object[] values = new Object[texts.length];
+        for (int i = 0; i < texts.length; i++) {
+            boolean number = texts[i].matches("-?\\d+");
+            values[i] = number ? (Object) Integer.valueOf(texts[i]) : Boolean.valueOf(texts[i]);
+        }
+        try {
+            return method(name, values.length).invoke(x, values);
+        } catch (InvocationTargetException e) {
+            if (e.getCause() instanceof RuntimeException thrown) {
+                throw thrown;
+            }
+            throw new UnsupportedOperationException(name + " failed", e);
+        } catch (IllegalAccessException e) {
+            throw new UnsupportedOperationException(name + " cannot be called", e);
+        }
     }
 
-    private static void limitAlarm() {
-        DischargeRecorder x = new DischargeRecorder();
-        Checks.due("3: record(0, 10, 600)", 0, () -> x.record(0, 10, 600));
-        Checks.due("3: record(0, 400, 700)", 1, () -> x.record(0, 400, 700));
-        Checks.due("3: firstAlarm(false)", 1, () -> x.firstAlarm(false));
-        Checks.due("3: interval(1, 1)", 700, () -> x.interval(1, 1));
-        Checks.due("3: set(9, 3)", 2, () -> x.set(9, 3));
-        Checks.due("3: firstAlarm(false)", -1, () -> x.firstAlarm(false));
-    }
-
-    private static void blockedWindow() {
-        DischargeRecorder x = new DischargeRecorder();
-        Checks.due("4: record(0, 10, 100)", 0, () -> x.record(0, 10, 100));
-        Checks.due("4: record(0, 20, 50)", 1, () -> x.record(0, 20, 50));
-        Checks.due("4: block(355, 15)", 1, () -> x.block(355, 15));
-        Checks.due("4: pulse(0, 5)", 3, () -> x.pulse(0, 5));
-        Checks.due("4: levelFor(0)", 51, () -> x.levelFor(0));
-        Checks.due("4: statusesWith(60, 200, 3, 2, 0)", 0,
-            () -> x.statusesWith(60, 200, 3, 2, 0));
-    }
-
-    private static void errors() {
-        DischargeRecorder x = new DischargeRecorder();
-        Checks.due("5: append(109)", 1, () -> x.append(109));
-        Checks.due("5: append(49)", 2, () -> x.append(49));
-        Checks.due("5: parse()", -12, () -> x.parse());
-        Checks.due("5: record(0, 0, 2001)", Checks.IAE, () -> x.record(0, 0, 2001));
-        Checks.due("5: pulse(0, 0)", Checks.IOOBE, () -> x.pulse(0, 0));
-        Checks.due("5: undo()", Checks.ISE, () -> x.undo());
+    private static Method method(String name, int parameters) {
+        for (Method method : DischargeRecorder.class.getMethods()) {
+            if (method.getName().equals(name) && method.getParameterCount() == parameters) {
+                return method;
+            }
+        }
+        throw new UnsupportedOperationException("there is no " + name);
     }
 }

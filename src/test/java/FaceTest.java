@@ -6,43 +6,26 @@ import java.util.ArrayList;
 import java.util.List;
 import java.util.TreeSet;
 
-/** The public face, as the document prints it, and nothing else that can be seen from outside. */
+/**
+ * The public face, as the document prints it in one piece and before each promise, and nothing else
+ * that can be seen from outside.
+ */
 final class FaceTest {
-    private static final List<String> DUE = List.of(
-        "int set(int, int) IllegalArgumentException",
-        "int value(int) IllegalArgumentException",
-        "int block(int, int) IllegalArgumentException IllegalStateException",
-        "int unblock()",
-        "int record(int, int, int) IllegalArgumentException IllegalStateException",
-        "int forget(int) IllegalArgumentException",
-        "int append(int) IllegalArgumentException IllegalStateException",
-        "int clearText()",
-        "int parse()",
-        "int pulses()",
-        "int pulse(int, int) IndexOutOfBoundsException IllegalArgumentException",
-        "int statuses(int) IllegalArgumentException",
-        "int count(int, int) IllegalArgumentException",
-        "int fullest(int, int) IllegalArgumentException",
-        "long feature(int, int, int, int) IllegalArgumentException",
-        "double asymmetry(int, int) IllegalArgumentException",
-        "int pattern(int, int) IllegalArgumentException",
-        "int similarity(int, int, int, int) IllegalArgumentException",
-        "int bursts()",
-        "long burst(int, int) IndexOutOfBoundsException IllegalArgumentException",
-        "long interval(int, int) IndexOutOfBoundsException IllegalArgumentException",
-        "int firstAlarm(boolean)",
-        "int statusesWith(int, int, int, int, int) IllegalArgumentException",
-        "int levelFor(int) IllegalArgumentException",
-        "int undo() IllegalStateException",
-        "long digest()");
-
     public static void main(String[] args) {
         Class<?> face = DischargeRecorder.class;
         Checks.due("the class", "public final", () -> Modifier.toString(face.getModifiers()));
         Checks.due("NONE", -1, () -> DischargeRecorder.NONE);
-        Checks.due("the methods", new TreeSet<>(DUE), () -> methods(face));
+        Checks.due("the document's face", 28, () -> Doc.face().size());
+        Checks.due("the methods", printed(Doc.face()), () -> methods(face));
+        Checks.due("the methods of the promises", printed(Doc.signatures()), () -> methods(face));
+        Checks.due("the promises", 27, () -> Doc.signatures().size());
         Checks.due("the constructors", "[public()]", () -> constructors(face));
+        Checks.due("the constructor is printed", true, () ->
+            Doc.face().contains("public DischargeRecorder()")
+                && Doc.signatures().contains("DischargeRecorder()"));
         Checks.due("the constants", "[public static final int NONE]", () -> fields(face));
+        Checks.due("the constant is printed", true, () ->
+            Doc.face().contains("public static final int NONE = -1"));
         for (Class<?> inner : face.getDeclaredClasses()) {
             int modifiers = inner.getModifiers();
             Checks.due("the class " + inner.getSimpleName(), true, () ->
@@ -50,6 +33,19 @@ final class FaceTest {
                     && !Modifier.isProtected(modifiers));
         }
         Checks.end();
+    }
+
+    /** The methods that the document prints, as methods() tells those of the class. */
+    private static TreeSet<String> printed(List<String> lines) {
+        TreeSet<String> found = new TreeSet<>();
+        for (String line : lines) {
+            String plain = line.replaceFirst("^public ", "");
+            if (!plain.startsWith("static ") && !plain.startsWith("DischargeRecorder(")) {
+                found.add(plain.replaceAll("(?<=[(, ])(int|boolean) \\w+(?=[,)])", "$1")
+                    .replaceFirst(" throws ", " ").replaceAll("Exception, ", "Exception "));
+            }
+        }
+        return found;
     }
 
     private static TreeSet<String> methods(Class<?> face) {

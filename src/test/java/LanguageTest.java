@@ -1,6 +1,7 @@
 import com.sun.source.tree.*;
 import com.sun.source.util.JavacTask;
 import com.sun.source.util.TreePathScanner;
+import java.nio.file.Files;
 import java.nio.file.Path;
 import java.util.List;
 import java.util.Set;
@@ -20,6 +21,8 @@ final class LanguageTest extends TreePathScanner<Void, Void> {
         Tree.Kind.PACKAGE);
     private static final Set<String> LIBRARY = Set.of("Math.abs", "Math.max", "Math.min",
         "System.arraycopy");
+    private static final Set<String> THROWN = Set.of("IllegalArgumentException",
+        "IllegalStateException", "IndexOutOfBoundsException");
     private static final Set<String> FACE = Set.of("set", "value", "block", "unblock", "record",
         "forget", "append", "clearText", "parse", "pulses", "pulse", "statuses", "count",
         "fullest", "feature", "asymmetry", "pattern", "similarity", "bursts", "burst",
@@ -40,6 +43,7 @@ final class LanguageTest extends TreePathScanner<Void, Void> {
         scan.lines = scan.unit.getLineMap();
         scan.scan(scan.unit, null);
         rule("11: at most twelve classes", scan.classes <= 12);
+        rule("4: signs 1 to 127", Files.readString(SOURCE).chars().allMatch(c -> c > 0 && c < 128));
         Checks.end();
     }
 
@@ -95,6 +99,20 @@ final class LanguageTest extends TreePathScanner<Void, Void> {
             ? FACE.contains(name) || name.equals("<init>")
             : !FACE.contains(name) && tree.getModifiers().getFlags().contains(Modifier.PRIVATE));
         return super.visitMethod(tree, none);
+    }
+
+    /** A new one of the exceptions of the document, with a written text, and in no constructor. */
+    @Override
+    public Void visitThrow(ThrowTree tree, Void none) {
+        String where = " in line " + line(tree, false);
+        rule("6: exception" + where, tree.getExpression() instanceof NewClassTree made
+            && THROWN.contains(made.getIdentifier().toString())
+            && made.getArguments().stream().allMatch(a -> a.getKind() == Tree.Kind.STRING_LITERAL));
+        for (Tree above : getCurrentPath()) {
+            rule("6: no throw in a constructor" + where, !(above instanceof MethodTree method)
+                || !method.getName().contentEquals("<init>"));
+        }
+        return super.visitThrow(tree, none);
     }
 
     @Override

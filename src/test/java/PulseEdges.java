@@ -8,7 +8,6 @@ final class PulseEdges {
     }
 
     static void all() {
-        mostCalls();
         mostPulses();
         timesOfPulses();
         amplitudesOfPulses();
@@ -31,17 +30,6 @@ final class PulseEdges {
         pulseRefuses();
         statuses();
         statusesRange();
-    }
-
-    private static void mostCalls() {
-        Doc.says("What it is", "at most 512 calls after it has been made");
-        DischargeRecorder x = new DischargeRecorder();
-        for (int i = 1; i <= 510; i++) {
-            int value = i % 360;
-            Checks.due("call " + i, (i - 1) % 360, () -> x.set(0, value));
-        }
-        Checks.due("call 511", 3, x::undo);
-        Checks.due("call 512", 509 % 360, () -> x.value(0));
     }
 
     private static void mostPulses() {

@@ -223,13 +223,17 @@ final class StateEdges {
         Doc.says("26", "Restores the most recently saved state and removes it from the saved");
         Doc.says("26", "Returns the number of saved states that remain.");
         DischargeRecorder x = Edge.State.RICH.make();
-        List<Long> seen = new ArrayList<>();
+        // The windows, the persistence and the number of pulses, from the newest state back.
+        int[][] windows = {{100, 110, 350, 5}, {100, 110}, {100, 110}, {}};
+        int[] persistence = {1, 1, 2, 2};
         for (int i = 0; i < 4; i++) {
-            seen.add(x.digest());
             int due = 3 - i;
+            Checks.due("the persistence before undo " + i, persistence[i], () -> x.value(9));
+            Checks.due("the pulses before undo " + i, 7, x::pulses);
+            Checks.due("the hash before undo " + i, hashOf(valuesOf(x, 13, 4 - i, windows[i])),
+                x::digest);
             Checks.due("states that remain", due, x::undo);
         }
-        Checks.due("four different ones", 4L, () -> seen.stream().distinct().count());
         Checks.due("the shift was set before that", 10, () -> x.value(0));
         Checks.due("the pulses were read after it", 0, x::pulses);
         Checks.due("the windows came after it", 0, x::unblock);
@@ -303,7 +307,7 @@ final class StateEdges {
     }
 
     /** The hash as it is told, without an overflow, and cut to a long in the end. */
-    private static long hashOf(List<Long> values) {
+    static long hashOf(List<Long> values) {
         BigInteger h = BigInteger.valueOf(2957);
         for (long value : values) {
             h = h.multiply(BigInteger.valueOf(31)).add(BigInteger.valueOf(value));
@@ -311,7 +315,8 @@ final class StateEdges {
         return h.longValue();
     }
 
-    private static List<Long> valuesOf(DischargeRecorder x, int length, int saved, int... ends) {
+    /** The values of the hash, of an object with such a text, saved states and windows. */
+    static List<Long> valuesOf(DischargeRecorder x, int length, int saved, int... ends) {
         List<Long> values = new ArrayList<>();
         values.add((long) length);
         for (int what = 0; what <= 10; what++) {

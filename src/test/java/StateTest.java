@@ -1,3 +1,5 @@
+import java.util.Arrays;
+
 /** Promises 26 and 27: undo, digest. */
 final class StateTest {
     public static void main(String[] args) {
@@ -122,17 +124,21 @@ final class StateTest {
         Checks.due("27: digest without windows", h, x::digest);
     }
 
-    /** Whatever is changed, the digest changes. */
+    /** After each call, the digest is the hash of what the object tells then. */
     private static void digestOfEach() {
         DischargeRecorder x = new DischargeRecorder();
         Checks.Call[] calls = {() -> x.append('m'), () -> x.set(5, 3), () -> x.block(1, 2),
             () -> x.block(2, 1), () -> x.record(0, 1, 50), () -> x.record(1, 1, 50), x::undo,
             () -> x.forget(1000), x::unblock, x::clearText};
+        int[] lengths = {1, 1, 1, 1, 1, 1, 1, 1, 1, 0};
+        int[] saved = {0, 1, 2, 3, 4, 4, 3, 4, 4, 4};
+        int[] ends = {0, 0, 2, 4, 4, 4, 4, 4, 0, 0};
         for (int i = 0; i < calls.length; i++) {
-            long before = x.digest();
-            Checks.due("27: asked twice before call " + i, before, x::digest);
             calls[i].run();
-            Checks.due("27: another one after call " + i, true, () -> x.digest() != before);
+            int[] windows = Arrays.copyOf(new int[] {1, 2, 2, 1}, ends[i]);
+            long due = StateEdges.hashOf(StateEdges.valuesOf(x, lengths[i], saved[i], windows));
+            Checks.due("27: after call " + i, due, x::digest);
+            Checks.due("27: asked again after call " + i, due, x::digest);
         }
     }
 }

@@ -295,10 +295,11 @@ final class TextEdges {
         Checks.due("nothing of the old text", 1, x::parse);
         String old = "m1+5;n12-345;";
         for (int length = 0; length <= old.length(); length++) {
-            Checks.write(x, old);
-            Checks.write(x, old.substring(0, length));
+            DischargeRecorder y = new DischargeRecorder();
+            Checks.append(y, old);
+            Checks.write(y, old.substring(0, length));
             int due = length == 0 ? 0 : length == 5 ? 1 : length == 13 ? 2 : -10 - length;
-            Checks.due("no byte of the old text behind " + length, due, x::parse);
+            Checks.due("no byte of the old text behind " + length, due, y::parse);
         }
     }
 
